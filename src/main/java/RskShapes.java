@@ -9,6 +9,7 @@ public final class RskShapes {
     private static final int CAPACITY = 10;
     private static final int GREATEST = 99;
     private static final int CELLS = CAPACITY * CAPACITY;
+    // A part can end before each place, and behind the last one.
     private static final int ENDS = CAPACITY + 1;
 
     // Greater than every number of the row, so that a free cell takes any number.
