@@ -14,7 +14,7 @@ public final class EveryOrderTest {
 
     private static void everyOrder(int[] row, int fixed) {
         if (fixed == row.length) {
-            Questions.askAll(CHECK, row);
+            new Run(CHECK, row).due(Questions.about(row));
             return;
         }
         for (int place = fixed; place < row.length; place++) {

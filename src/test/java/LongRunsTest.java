@@ -30,7 +30,7 @@ public final class LongRunsTest {
     }
 
     private void run(int run) {
-        for (int call = 1; call <= Questions.CALLS; call++) {
+        for (int call = 1; call <= Run.CALLS; call++) {
             name = "run " + run + ", call " + call + ", " + row + ", ";
             // Pushes come often enough to fill the row now and then.
             switch (next(20)) {

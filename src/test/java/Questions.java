@@ -1,66 +1,76 @@
-import java.util.Arrays;
+import java.util.ArrayList;
+import java.util.List;
 
-/** Asks an object every question about its row, and holds the answers against the definition. */
+/**
+ * Every question about a row, with the answer by definition. They are few enough that one object
+ * can be asked them all, even for a row of ten numbers.
+ */
 final class Questions {
-    /** The document frees the answers behind this many calls on one object. */
-    static final int CALLS = 512;
-
     private Questions() {
     }
 
-    static RskShapes made(int[] row) {
-        RskShapes shapes = new RskShapes();
-        for (int value : row) {
-            shapes.push(value);
+    static List<Due> about(int[] row) {
+        List<Due> dues = new ArrayList<>();
+        addLooks(dues, row);
+        addWhole(dues, row);
+        addFirst(dues, row);
+        addUpTo(dues, row);
+        return dues;
+    }
+
+    private static void addLooks(List<Due> dues, int[] row) {
+        dues.add(new Due(Call.length(), row.length));
+        for (int place = 0; place < row.length; place++) {
+            dues.add(new Due(Call.at(place), row[place]));
         }
-        return shapes;
+        for (int place : new int[] {-1, row.length, Rows.MIN, Rows.MAX}) {
+            dues.add(new Due(Call.at(place), -1));
+        }
     }
 
-    /** Each group of questions has an object of its own, so that none comes to 512 calls. */
-    static void askAll(Check check, int[] row) {
-        askWhole(check, row, made(row));
-        askFirst(check, row, made(row));
-        askUpTo(check, row, made(row));
-    }
-
-    static void askWhole(Check check, int[] row, RskShapes shapes) {
-        String name = Arrays.toString(row);
-        int n = row.length;
+    private static void addWhole(List<Due> dues, int[] row) {
         int[] rises = ByDefinition.risesByCount(row);
         int[] falls = ByDefinition.fallsByCount(row);
-        for (int k = -1; k <= n + 1; k++) {
-            check.due(name + ", rise(" + k + ")", shapes.rise(k), k < 0 ? -1 : rises[k]);
-            check.due(name + ", fall(" + k + ")", shapes.fall(k), k < 0 ? -1 : falls[k]);
+        for (int k = 0; k < rises.length; k++) {
+            dues.add(new Due(Call.rise(k), rises[k]));
+            dues.add(new Due(Call.fall(k), falls[k]));
         }
-        check.due(name + ", rises()", shapes.rises(), ByDefinition.leastForWhole(rises, n));
-        check.due(name + ", falls()", shapes.falls(), ByDefinition.leastForWhole(falls, n));
-        check.due(name + ", longestRises()", shapes.longestRises(), ByDefinition.longestRises(row));
-        check.due(name + ", words()", shapes.words(), ByDefinition.words(rises));
-        check.due(name + ", inversions()", shapes.inversions(), ByDefinition.inversions(row));
-        check.dueRow(name + ", after the questions", shapes, row);
+        for (int k : new int[] {-1, Rows.MIN}) {
+            dues.add(new Due(Call.rise(k), -1));
+            dues.add(new Due(Call.fall(k), -1));
+        }
+        dues.add(new Due(Call.rise(Rows.MAX), row.length));
+        dues.add(new Due(Call.fall(Rows.MAX), row.length));
+        dues.add(new Due(Call.rises(), ByDefinition.leastForWhole(rises, row.length)));
+        dues.add(new Due(Call.falls(), ByDefinition.leastForWhole(falls, row.length)));
+        dues.add(new Due(Call.longestRises(), ByDefinition.longestRises(row)));
+        dues.add(new Due(Call.words(), ByDefinition.words(rises)));
+        dues.add(new Due(Call.inversions(), ByDefinition.inversions(row)));
     }
 
-    static void askFirst(Check check, int[] row, RskShapes shapes) {
-        String name = Arrays.toString(row);
+    private static void addFirst(List<Due> dues, int[] row) {
         for (int count = 0; count <= row.length; count++) {
             int[] rises = ByDefinition.risesByCount(ByDefinition.first(row, count));
-            for (int k = 0; k <= count + 1; k++) {
-                check.due(name + ", riseOfFirst(" + count + ", " + k + ")", shapes.riseOfFirst(count, k), rises[k]);
+            for (int k = 0; k < rises.length; k++) {
+                dues.add(new Due(Call.riseOfFirst(count, k), rises[k]));
             }
         }
-        check.dueRow(name + ", after riseOfFirst", shapes, row);
+        dues.add(new Due(Call.riseOfFirst(-1, 1), -1));
+        dues.add(new Due(Call.riseOfFirst(row.length + 1, 1), -1));
+        dues.add(new Due(Call.riseOfFirst(row.length, -1), -2));
     }
 
-    static void askUpTo(Check check, int[] row, RskShapes shapes) {
-        String name = Arrays.toString(row);
+    private static void addUpTo(List<Due> dues, int[] row) {
         for (int value : row) {
             for (int bound = value - 1; bound <= value; bound++) {
                 int[] rises = ByDefinition.risesByCount(ByDefinition.upTo(row, bound));
                 for (int k = 0; k < rises.length; k++) {
-                    check.due(name + ", riseUpTo(" + bound + ", " + k + ")", shapes.riseUpTo(bound, k), rises[k]);
+                    dues.add(new Due(Call.riseUpTo(bound, k), rises[k]));
                 }
             }
         }
-        check.dueRow(name + ", after riseUpTo", shapes, row);
+        dues.add(new Due(Call.riseUpTo(Rows.MIN, 1), 0));
+        dues.add(new Due(Call.riseUpTo(Rows.MAX, Rows.MAX), row.length));
+        dues.add(new Due(Call.riseUpTo(Rows.MAX, -1), -1));
     }
 }

@@ -1,0 +1,3 @@
+/** A call and the answer that the document asks for. */
+record Due(Call call, int want) {
+}
